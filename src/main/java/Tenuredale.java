@@ -509,11 +509,11 @@ public final class Tenuredale {
         }
 
         Thing read(int field) {
-            return hasField(field) ? fields[field] : null;
+            return field >= 0 && field < fields.length ? fields[field] : null;
         }
 
         void write(int field, Thing other) {
-            if (hasField(field)) {
+            if (field >= 0 && field < fields.length) {
                 fields[field] = other;
             }
         }
@@ -977,7 +977,7 @@ public final class Tenuredale {
                 Thing thing = all.item(index);
                 if (thing != null && thing.colour == GREY) {
                     thing.colour = BLACK;
-                    for (int field = thing.kind == WEAK ? 1 : 0; field < thing.fields.length; field++) {
+                    for (int field = thing.kind == WEAK ? REFERENT + 1 : 0; field < thing.fields.length; field++) {
                         grey(thing.fields[field]);
                     }
                     return thing;
@@ -1308,7 +1308,7 @@ public final class Tenuredale {
             for (; followed < MOST_OBJECTS && followed < sources.size(); followed++) {
                 Thing source = sources.item(followed);
                 if (source != null) {
-                    for (int field = source.kind == WEAK ? 1 : 0; field < source.fields.length; field++) {
+                    for (int field = source.kind == WEAK ? REFERENT + 1 : 0; field < source.fields.length; field++) {
                         move(source.fields[field]);
                     }
                 }

@@ -56,6 +56,7 @@ public final class AskedTest {
         x.set(0, 1, 0);
         Check.due("field(0, 0)", x.field(0, 0), NONE);
         Check.due("field(0, 1)", x.field(0, 1), 0);
+        x.set(0, 0, 1);
         Check.throwsIndex("field(0, 2)", () -> x.field(0, 2));
         Check.throwsIndex("field(1, 0)", () -> x.field(1, 0));
         Check.throwsIndex("field(2, 0)", () -> x.field(2, 0));
@@ -65,6 +66,7 @@ public final class AskedTest {
         }
         x.put(0, NONE);
         x.minor();
+        Check.due("a FIELD of one that is GONE", x.field(0, 0), NONE);
         Check.due("a FIELD of one that is GONE", x.field(0, 1), NONE);
         Check.throwsIndex("field(0, 2) of one that is GONE", () -> x.field(0, 2));
     }
@@ -326,6 +328,23 @@ public final class AskedTest {
         Check.due("SIZES as they are", x.wouldFree(false), 26);
         Check.due("full(false)", x.full(false), 4);
         Check.due("wouldFree(false)", x.wouldFree(false), 0);
+
+        Tenuredale y = new Tenuredale();
+        y.make(0, 4, 1);
+        hang(y, 0, 0, 2, 2);
+        y.get(0, 0, 1);
+        hang(y, 1, 0, 0, 3);
+        hang(y, 1, 1, 0, 1);
+        y.put(0, NONE);
+        y.put(1, NONE);
+        Check.due("the first one would rise", y.wouldFree(true), 0);
+        Check.due("without what a SOFT one refers to", y.wouldFree(false), 5);
+        y.make(0, 3, 2);
+        hang(y, 0, 1, 0, 1);
+        hang(y, 0, 0, 4, 0);
+        Check.due("a PAIR that would have none, as its KEY rises", y.wouldFree(true), 3);
+        Check.due("full(true)", y.full(true), 1);
+        Check.due("VALUE", y.ofObject(5, 0), 0);
     }
 
     private static void held() {
@@ -473,6 +492,16 @@ public final class AskedTest {
         Check.due("digest()", x.digest(), digestByCalls(x));
         Check.due("digest() changes nothing", x.digest(), x.digest());
         Check.due("many(13)", x.many(13), 5);
+        x.make(3, 0, 4);
+        x.put(3, NONE);
+        Check.due("wouldFree(true)", x.wouldFree(true) > 0, true);
+        Check.due("digest()", x.digest(), digestByCalls(x));
+        x.minor();
+        for (int fields = 0; x.addressFor(5) != NONE; fields++) {
+            x.make(3, 0, fields % 2);
+        }
+        Check.due("addressFor(4)", x.addressFor(4), x.many(4) + 34);
+        Check.due("digest()", x.digest(), digestByCalls(x));
         Check.due("of another heap", x.digest() == new Tenuredale().digest(), false);
     }
 }

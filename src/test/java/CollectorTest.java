@@ -113,6 +113,14 @@ public final class CollectorTest {
         }
         Check.due("many(3)", x.many(3), 31);
         Check.due("TOUCHED", x.many(13), 44);
+
+        Tenuredale y = new Tenuredale();
+        for (int slot = 0; slot < 4; slot++) {
+            y.make(slot, 0, 8);
+        }
+        y.minor();
+        Check.due("the last one just fits", y.ofObject(3, 1), 70);
+        Check.due("many(3)", y.many(3), 40);
     }
 
     /** OLD with 8 words left, and a YOUNG one in the SLOT 0 of a second FRAME. */
@@ -358,6 +366,13 @@ public final class CollectorTest {
         y.put(1, NONE);
         y.put(2, NONE);
         Check.due("a KEY that only the VALUE holds", y.full(true), 3);
+        hang(y, 0, 1, 0, 1);
+        y.set(0, 0, 0);
+        y.get(0, 1, 1);
+        int behind = hang(y, 1, 0, 0, 0);
+        y.put(1, NONE);
+        Check.due("what a VALUE refers to", y.full(true), 0);
+        Check.due("it is THERE", y.ofObject(behind, 0), 2);
     }
 
     private static void fullFinals() {
@@ -570,6 +585,38 @@ public final class CollectorTest {
         Check.due("many(5)", y.many(5), 180);
         y.make(1, 0, 0);
         Check.due("pin(1)", y.pin(1), false);
+
+        Tenuredale z = withOld(11);
+        Check.due("52 of 60", z.many(6), 90);
+        z.push();
+        z.make(0, 0, 8);
+        z.make(1, 0, 8);
+        z.full(true);
+        Check.due("72 of 90", z.many(6), 120);
+        z.make(2, 0, 8);
+        z.pop();
+        z.swap(0, 0);
+        z.push();
+        for (int slot = 0; slot < 3; slot++) {
+            z.make(slot, 0, 8);
+        }
+        z.full(true);
+        Check.due("69 of 120", z.many(6), 120);
+        z.pop();
+        for (int slot = 0; slot < 4; slot++) {
+            z.put(slot, NONE);
+        }
+        z.swap(0, 0);
+        z.put(0, NONE);
+        for (int slot = 0; slot < 3; slot++) {
+            z.make(slot, 0, 8);
+        }
+        z.full(true);
+        Check.due("30 of 120", z.many(6), 120);
+        z.put(2, NONE);
+        z.make(2, 0, 7);
+        z.full(true);
+        Check.due("29 of 120", z.many(6), 90);
     }
 
     private static void start() {
@@ -610,6 +657,12 @@ public final class CollectorTest {
         x.finish();
         Check.due("start() once more", x.start(), 5);
         Check.due("colour", x.ofObject(5, 6), 0);
+
+        Tenuredale y = new Tenuredale();
+        y.make(0, 0, 0);
+        y.pin(0);
+        y.put(0, NONE);
+        Check.due("start() with what is PINNED alone", y.start(), 1);
     }
 
     private static void step() {
@@ -623,7 +676,7 @@ public final class CollectorTest {
         int child = hang(x, 0, 1, 0, 1);
         x.make(1, 1, 3);
         int weak = hang(x, 1, 0, 0, 0);
-        int third = hang(x, 1, 2, 0, 4);
+        int third = hang(x, 1, 1, 0, 4);
         x.make(2, 3, 2);
         hang(x, 2, 0, 0, 0);
         hang(x, 2, 1, 2, 1);
@@ -709,6 +762,34 @@ public final class CollectorTest {
         x.make(2, 0, 0);
         Check.due("finish()", x.finish(), 0);
         Check.due("full(true)", x.full(true), 1);
+
+        Tenuredale y = new Tenuredale();
+        y.make(0, 0, 1);
+        int taken = hang(y, 0, 0, 0, 1);
+        y.get(0, 0, 1);
+        int behind = hang(y, 1, 0, 0, 0);
+        y.put(1, NONE);
+        int swapped = y.make(1, 0, 0);
+        y.set(0, 0, NONE);
+        y.start();
+        y.full(true);
+        Check.due("what is GONE ahead", y.ofObject(taken, 0) + y.ofObject(behind, 0), 0);
+        y.set(0, 0, 1);
+        y.put(1, NONE);
+        y.start();
+        y.get(0, 0, 2);
+        y.set(0, 0, NONE);
+        Check.due("colour of what a SLOT took", y.ofObject(swapped, 6), 0);
+        Check.due("finish() looks at the roots once more", y.finish(), 0);
+        Check.due("what a SLOT took", y.ofObject(swapped, 0), 2);
+        y.set(0, 0, 2);
+        y.put(2, NONE);
+        y.start();
+        y.get(0, 0, 2);
+        y.set(0, 0, NONE);
+        y.pin(2);
+        y.put(2, NONE);
+        Check.due("and at what is PINNED", y.finish(), 0);
     }
 
     private static void finishLetsGo() {
@@ -735,6 +816,17 @@ public final class CollectorTest {
         Check.due("queue(0)", x.queue(0), 6);
         Check.due("what is GONE", x.ofObject(7, 0), 0);
         Check.due("KIND", x.ofObject(6, 7), 0);
+
+        Tenuredale y = new Tenuredale();
+        y.make(0, 4, 1);
+        hang(y, 0, 0, 2, 1);
+        y.get(0, 0, 1);
+        int kept = hang(y, 1, 0, 0, 0);
+        y.put(0, NONE);
+        y.put(1, NONE);
+        y.start();
+        Check.due("finish()", y.finish(), 0);
+        Check.due("a SOFT one that rises keeps its REFERENT", y.field(1, 0), kept);
     }
 
     private static void tenure() {

@@ -83,6 +83,10 @@ public final class ProgramTest {
         x.pop();
         x.push();
         Check.due("at(3) of the new FRAME", x.at(3), NONE);
+        x.make(0, 0, 0);
+        x.pop();
+        x.push();
+        Check.due("at(0) of the new FRAME", x.at(0), NONE);
     }
 
     private static void makeOrdinary() {
@@ -176,6 +180,7 @@ public final class ProgramTest {
         Check.due("at(1)", x.at(1), 6);
         Check.due("many(0)", x.many(0), 7);
         Check.due("many(12)", x.many(12), 4);
+        Check.due("many(11)", x.many(11), 0);
 
         Tenuredale y = new Tenuredale();
         int made = 0;
