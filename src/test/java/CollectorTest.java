@@ -349,9 +349,9 @@ public final class CollectorTest {
         y.get(1, 1, 3);
         y.set(0, 0, 3);
         y.put(3, NONE);
-        int last = hang(y, 0, 1, 0, 0);
+        int linked = hang(y, 0, 1, 0, 0);
         Check.due("a VALUE that is a KEY", y.full(true), 0);
-        Check.due("VALUE", y.field(0, 1), last);
+        Check.due("VALUE", y.field(0, 1), linked);
         y.put(2, NONE);
         Check.due("full(true)", y.full(true), 3);
         Check.due("the link", y.ofObject(link, 0), 0);
@@ -371,8 +371,17 @@ public final class CollectorTest {
         y.get(0, 1, 1);
         int behind = hang(y, 1, 0, 0, 0);
         y.put(1, NONE);
+        Check.due("isReachable", y.isReachable(behind), true);
         Check.due("what a VALUE refers to", y.full(true), 0);
         Check.due("it is THERE", y.ofObject(behind, 0), 2);
+        y.get(0, 1, 1);
+        y.make(2, 3, 2);
+        y.get(1, 0, 3);
+        y.set(2, 0, 3);
+        y.put(1, NONE);
+        int last = hang(y, 2, 1, 0, 0);
+        Check.due("a KEY that a VALUE refers to", y.full(true), 0);
+        Check.due("VALUE", y.field(y.at(2), 1), last);
     }
 
     private static void fullFinals() {
