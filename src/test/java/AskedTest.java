@@ -24,13 +24,6 @@ public final class AskedTest {
         Check.end();
     }
 
-    private static int hang(Tenuredale x, int slot, int field, int kind, int fields) {
-        int made = x.make(3, kind, fields);
-        x.set(slot, field, 3);
-        x.put(3, NONE);
-        return made;
-    }
-
     private static void at() {
         Check.part("Promise 19");
         Tenuredale x = new Tenuredale();
@@ -268,12 +261,12 @@ public final class AskedTest {
         Tenuredale x = new Tenuredale();
         Check.throwsIndex("isReachable(0)", () -> x.isReachable(0));
         x.make(0, 2, 1);
-        hang(x, 0, 0, 0, 0);
+        Heaps.hang(x, 0, 0, 0, 0);
         x.make(1, 1, 1);
-        hang(x, 1, 0, 0, 0);
+        Heaps.hang(x, 1, 0, 0, 0);
         x.make(2, 3, 2);
-        hang(x, 2, 0, 0, 0);
-        hang(x, 2, 1, 0, 0);
+        Heaps.hang(x, 2, 0, 0, 0);
+        Heaps.hang(x, 2, 1, 0, 0);
         x.make(3, 4, 0);
         x.swap(3, 0);
         x.make(3, 4, 0);
@@ -306,7 +299,7 @@ public final class AskedTest {
         Tenuredale x = new Tenuredale();
         Check.due("wouldFree(true)", x.wouldFree(true), 0);
         x.make(0, 2, 1);
-        hang(x, 0, 0, 0, 4);
+        Heaps.hang(x, 0, 0, 0, 4);
         x.make(1, 0, 0);
         x.hash(1);
         x.minor();
@@ -318,7 +311,7 @@ public final class AskedTest {
         Check.due("wouldFree(false)", x.wouldFree(false), 23);
         Check.due("digest()", x.digest(), before);
         x.make(2, 4, 1);
-        hang(x, 2, 0, 0, 7);
+        Heaps.hang(x, 2, 0, 0, 7);
         x.put(2, NONE);
         Check.due("what would rise", x.wouldFree(false), 23);
         Check.due("KIND", x.ofObject(4, 7), 4);
@@ -331,17 +324,17 @@ public final class AskedTest {
 
         Tenuredale y = new Tenuredale();
         y.make(0, 4, 1);
-        hang(y, 0, 0, 2, 2);
+        Heaps.hang(y, 0, 0, 2, 2);
         y.get(0, 0, 1);
-        hang(y, 1, 0, 0, 3);
-        hang(y, 1, 1, 0, 1);
+        Heaps.hang(y, 1, 0, 0, 3);
+        Heaps.hang(y, 1, 1, 0, 1);
         y.put(0, NONE);
         y.put(1, NONE);
         Check.due("the first one would rise", y.wouldFree(true), 0);
         Check.due("without what a SOFT one refers to", y.wouldFree(false), 5);
         y.make(0, 3, 2);
-        hang(y, 0, 1, 0, 1);
-        hang(y, 0, 0, 4, 0);
+        Heaps.hang(y, 0, 1, 0, 1);
+        Heaps.hang(y, 0, 0, 4, 0);
         Check.due("a PAIR that would have none, as its KEY rises", y.wouldFree(true), 3);
         Check.due("full(true)", y.full(true), 1);
         Check.due("VALUE", y.ofObject(5, 0), 0);
@@ -352,8 +345,8 @@ public final class AskedTest {
         Tenuredale x = new Tenuredale();
         Check.throwsIndex("held(0)", () -> x.held(0));
         x.make(0, 0, 2);
-        hang(x, 0, 0, 0, 3);
-        hang(x, 0, 1, 0, 1);
+        Heaps.hang(x, 0, 0, 0, 3);
+        Heaps.hang(x, 0, 1, 0, 1);
         x.get(0, 1, 1);
         x.make(2, 1, 1);
         x.set(2, 0, 0);
@@ -379,14 +372,14 @@ public final class AskedTest {
             Check.throwsIndex("held(" + wrong + ")", () -> x.held(wrong));
         }
         x.make(0, 2, 1);
-        hang(x, 0, 0, 0, 6);
+        Heaps.hang(x, 0, 0, 0, 6);
         Check.due("held(5), a SOFT one", x.held(5), 8);
         x.make(1, 4, 1);
-        hang(x, 1, 0, 0, 1);
+        Heaps.hang(x, 1, 0, 0, 1);
         x.put(1, NONE);
         Check.due("held(7), one that would rise", x.held(7), 3);
         x.make(1, 3, 2);
-        hang(x, 1, 1, 0, 9);
+        Heaps.hang(x, 1, 1, 0, 9);
         x.set(1, 0, 1);
         Check.due("held(9), a PAIR that is its KEY", x.held(9), 11);
     }
@@ -398,7 +391,7 @@ public final class AskedTest {
         x.make(1, 3, 2);
         x.make(2, 0, 0);
         x.set(1, 0, 2);
-        hang(x, 1, 1, 0, 1);
+        Heaps.hang(x, 1, 1, 0, 1);
         x.set(0, 0, 1);
         x.make(3, 4, 2);
         x.set(3, 0, 1);
@@ -474,9 +467,9 @@ public final class AskedTest {
         Tenuredale x = new Tenuredale();
         Check.due("digest()", x.digest(), digestByCalls(x));
         x.make(0, 2, 2);
-        hang(x, 0, 0, 0, 3);
+        Heaps.hang(x, 0, 0, 0, 3);
         x.make(1, 4, 1);
-        hang(x, 1, 0, 1, 1);
+        Heaps.hang(x, 1, 0, 1, 1);
         x.make(2, 0, 15);
         x.hash(0);
         x.set(2, 3, 0);

@@ -29,14 +29,6 @@ public final class CollectorTest {
         Check.end();
     }
 
-    /** Makes an OBJECT that only a FIELD of the OBJECT of another SLOT refers to; the SLOT 3 is used for it. */
-    private static int hang(Tenuredale x, int slot, int field, int kind, int fields) {
-        int made = x.make(3, kind, fields);
-        x.set(slot, field, 3);
-        x.put(3, NONE);
-        return made;
-    }
-
     private static void minorOrder() {
         Check.part("Promise 13, order");
         Tenuredale x = new Tenuredale();
@@ -46,13 +38,13 @@ public final class CollectorTest {
         Check.due("minor()", x.minor(), 0);
         Check.due("many(4)", x.many(4), 40);
         x.make(1, 0, 12);
-        hang(x, 1, 5, 0, 0);
+        Heaps.hang(x, 1, 5, 0, 0);
         x.make(2, 0, 0);
         x.swap(2, 3);
         x.make(2, 0, 0);
         x.push();
         x.make(1, 0, 1);
-        hang(x, 1, 0, 0, 0);
+        Heaps.hang(x, 1, 0, 0, 0);
         x.make(0, 0, 0);
         x.make(3, 0, 0);
         x.put(3, NONE);
@@ -77,7 +69,7 @@ public final class CollectorTest {
         x.make(0, 0, 1);
         x.minor();
         Check.due("place", x.ofObject(0, 0), 1);
-        hang(x, 0, 0, 0, 2);
+        Heaps.hang(x, 0, 0, 0, 2);
         x.minor();
         Check.due("place", x.ofObject(0, 0), 2);
         Check.due("address", x.ofObject(0, 1), 100);
@@ -123,37 +115,22 @@ public final class CollectorTest {
         Check.due("many(3)", y.many(3), 40);
     }
 
-    /** OLD with 8 words left, and a YOUNG one in the SLOT 0 of a second FRAME. */
-    private static Tenuredale withEightLeft(int fields) {
-        Tenuredale x = new Tenuredale();
-        x.tenure(1);
-        for (int slot = 0; slot < 3; slot++) {
-            x.make(slot, 0, 11);
-        }
-        x.minor();
-        x.make(3, 0, 11);
-        x.minor();
-        x.push();
-        x.make(0, 0, fields);
-        return x;
-    }
-
     private static void minorOrFull() {
         Check.part("Promise 13, or a FULL");
-        Tenuredale fits = withEightLeft(6);
+        Tenuredale fits = Heaps.withEightLeft(6);
         fits.minor();
         Check.due("MINORS", fits.many(11), 3);
         Check.due("FULLS", fits.many(12), 0);
         Check.due("OLD", fits.many(5), 60);
-        Tenuredale wide = withEightLeft(7);
+        Tenuredale wide = Heaps.withEightLeft(7);
         wide.put(0, NONE);
         wide.make(1, 2, 2);
-        hang(wide, 1, 0, 0, 0);
+        Heaps.hang(wide, 1, 0, 0, 0);
         Check.due("minor() counts what is GONE by the FULL", wide.minor(), 1);
         Check.due("MINORS", wide.many(11), 2);
         Check.due("FULLS", wide.many(12), 1);
         Check.due("SOFT ones are kept", wide.field(5, 0), 6);
-        Tenuredale grown = withEightLeft(6);
+        Tenuredale grown = Heaps.withEightLeft(6);
         grown.hash(0);
         grown.minor();
         Check.due("GROWN, if they would GROW", grown.many(12), 1);
@@ -166,13 +143,13 @@ public final class CollectorTest {
         Check.part("Promise 13, WEAK ones and others");
         Tenuredale x = new Tenuredale();
         x.make(0, 1, 2);
-        hang(x, 0, 0, 0, 0);
-        hang(x, 0, 1, 0, 0);
+        Heaps.hang(x, 0, 0, 0, 0);
+        Heaps.hang(x, 0, 1, 0, 0);
         x.make(1, 2, 1);
-        hang(x, 1, 0, 0, 0);
+        Heaps.hang(x, 1, 0, 0, 0);
         x.make(2, 3, 2);
-        hang(x, 2, 0, 0, 0);
-        hang(x, 2, 1, 0, 0);
+        Heaps.hang(x, 2, 0, 0, 0);
+        Heaps.hang(x, 2, 1, 0, 0);
         Check.due("minor()", x.minor(), 1);
         Check.due("a REFERENT that is left", x.field(0, 0), NONE);
         Check.due("a FIELD of a WEAK one", x.field(0, 1), 2);
@@ -185,14 +162,14 @@ public final class CollectorTest {
         x.minor();
         Check.due("a REFERENT that moved otherwise", x.field(0, 0), 2);
         Check.due("all are OLD", x.many(3), 0);
-        hang(x, 0, 0, 0, 0);
+        Heaps.hang(x, 0, 0, 0, 0);
         x.put(0, NONE);
         Check.due("the CARD of a WEAK one", x.isDirty(0), true);
         Check.due("minor()", x.minor(), 1);
         Check.due("an OLD one's REFERENT, not reachable", x.field(0, 0), NONE);
         Check.due("its CARD", x.isDirty(0), false);
         x.make(0, 1, 12);
-        hang(x, 0, 0, 0, 0);
+        Heaps.hang(x, 0, 0, 0, 0);
         Check.due("minor()", x.minor(), 1);
         Check.due("a LARGE one's REFERENT", x.field(9, 0), NONE);
     }
@@ -204,7 +181,7 @@ public final class CollectorTest {
         x.make(0, 4, 1);
         x.make(1, 4, 2);
         x.set(0, 0, 1);
-        int child = hang(x, 1, 0, 0, 0);
+        int child = Heaps.hang(x, 1, 0, 0, 0);
         x.make(2, 1, 2);
         x.set(1, 1, 2);
         x.put(3, 1);
@@ -232,9 +209,9 @@ public final class CollectorTest {
 
         Tenuredale y = new Tenuredale();
         y.make(0, 4, 1);
-        hang(y, 0, 0, 1, 1);
+        Heaps.hang(y, 0, 0, 1, 1);
         y.get(0, 0, 1);
-        hang(y, 1, 0, 0, 0);
+        Heaps.hang(y, 1, 0, 0, 0);
         y.put(0, NONE);
         y.put(1, NONE);
         Check.due("minor()", y.minor(), 1);
@@ -272,14 +249,14 @@ public final class CollectorTest {
         Check.part("Promise 14, what is MARKED");
         Tenuredale x = new Tenuredale();
         x.make(0, 0, 1);
-        hang(x, 0, 0, 0, 1);
+        Heaps.hang(x, 0, 0, 0, 1);
         x.make(1, 0, 0);
         x.swap(1, 2);
         x.make(1, 4, 1);
-        hang(x, 1, 0, 0, 0);
+        Heaps.hang(x, 1, 0, 0, 0);
         x.put(1, NONE);
         x.make(1, 0, 1);
-        hang(x, 1, 0, 0, 0);
+        Heaps.hang(x, 1, 0, 0, 0);
         x.pin(1);
         x.put(1, NONE);
         x.push();
@@ -304,11 +281,11 @@ public final class CollectorTest {
         Check.part("Promise 14, WEAK and SOFT ones");
         Tenuredale x = new Tenuredale();
         x.make(0, 2, 2);
-        hang(x, 0, 0, 0, 0);
-        hang(x, 0, 1, 0, 0);
+        Heaps.hang(x, 0, 0, 0, 0);
+        Heaps.hang(x, 0, 1, 0, 0);
         x.make(1, 1, 2);
-        hang(x, 1, 0, 0, 0);
-        hang(x, 1, 1, 0, 0);
+        Heaps.hang(x, 1, 0, 0, 0);
+        Heaps.hang(x, 1, 1, 0, 0);
         Check.due("full(true)", x.full(true), 1);
         Check.due("a WEAK one's REFERENT", x.field(3, 0), NONE);
         Check.due("its FIELD", x.field(3, 1), 5);
@@ -326,9 +303,9 @@ public final class CollectorTest {
         Check.part("Promise 14, PAIRS");
         Tenuredale x = new Tenuredale();
         x.make(0, 3, 3);
-        int key = hang(x, 0, 0, 0, 1);
-        int value = hang(x, 0, 1, 0, 1);
-        int third = hang(x, 0, 2, 0, 0);
+        int key = Heaps.hang(x, 0, 0, 0, 1);
+        int value = Heaps.hang(x, 0, 1, 0, 1);
+        int third = Heaps.hang(x, 0, 2, 0, 0);
         x.get(0, 0, 1);
         x.put(2, NONE);
         Check.due("full(true), with the KEY held", x.full(true), 0);
@@ -345,31 +322,31 @@ public final class CollectorTest {
         y.make(1, 3, 2);
         y.make(2, 0, 0);
         y.set(1, 0, 2);
-        int link = hang(y, 1, 1, 0, 0);
+        int link = Heaps.hang(y, 1, 1, 0, 0);
         y.get(1, 1, 3);
         y.set(0, 0, 3);
         y.put(3, NONE);
-        int linked = hang(y, 0, 1, 0, 0);
+        int linked = Heaps.hang(y, 0, 1, 0, 0);
         Check.due("a VALUE that is a KEY", y.full(true), 0);
         Check.due("VALUE", y.field(0, 1), linked);
         y.put(2, NONE);
         Check.due("full(true)", y.full(true), 3);
         Check.due("the link", y.ofObject(link, 0), 0);
-        hang(y, 0, 1, 0, 0);
+        Heaps.hang(y, 0, 1, 0, 0);
         Check.due("a VALUE whose KEY is NONE", y.full(true), 1);
         Check.due("VALUE", y.field(0, 1), NONE);
-        hang(y, 0, 1, 0, 1);
+        Heaps.hang(y, 0, 1, 0, 1);
         y.get(0, 1, 2);
-        hang(y, 2, 0, 0, 0);
+        Heaps.hang(y, 2, 0, 0, 0);
         y.get(2, 0, 1);
         y.set(0, 0, 1);
         y.put(1, NONE);
         y.put(2, NONE);
         Check.due("a KEY that only the VALUE holds", y.full(true), 3);
-        hang(y, 0, 1, 0, 1);
+        Heaps.hang(y, 0, 1, 0, 1);
         y.set(0, 0, 0);
         y.get(0, 1, 1);
-        int behind = hang(y, 1, 0, 0, 0);
+        int behind = Heaps.hang(y, 1, 0, 0, 0);
         y.put(1, NONE);
         Check.due("isReachable", y.isReachable(behind), true);
         Check.due("what a VALUE refers to", y.full(true), 0);
@@ -379,7 +356,7 @@ public final class CollectorTest {
         y.get(1, 0, 3);
         y.set(2, 0, 3);
         y.put(1, NONE);
-        int last = hang(y, 2, 1, 0, 0);
+        int last = Heaps.hang(y, 2, 1, 0, 0);
         Check.due("a KEY that a VALUE refers to", y.full(true), 0);
         Check.due("VALUE", y.field(y.at(2), 1), last);
     }
@@ -391,10 +368,10 @@ public final class CollectorTest {
         x.make(0, 4, 12);
         x.make(1, 4, 1);
         x.minor();
-        hang(x, 1, 0, 1, 1);
+        Heaps.hang(x, 1, 0, 1, 1);
         x.get(1, 0, 2);
         x.set(0, 1, 2);
-        hang(x, 0, 0, 0, 0);
+        Heaps.hang(x, 0, 0, 0, 0);
         x.get(0, 0, 3);
         x.set(2, 0, 3);
         x.put(3, NONE);
@@ -426,20 +403,20 @@ public final class CollectorTest {
         Check.part("Promise 14, PAIRS and FINAL ones");
         Tenuredale x = new Tenuredale();
         x.make(0, 3, 2);
-        hang(x, 0, 0, 0, 0);
-        hang(x, 0, 1, 0, 0);
+        Heaps.hang(x, 0, 0, 0, 0);
+        Heaps.hang(x, 0, 1, 0, 0);
         x.make(1, 4, 2);
         x.get(0, 0, 2);
         x.set(1, 0, 2);
         x.put(2, NONE);
-        hang(x, 1, 1, 3, 2);
+        Heaps.hang(x, 1, 1, 3, 2);
         x.put(3, 1);
         x.get(1, 1, 1);
         x.get(3, 0, 2);
         x.set(1, 0, 2);
         x.put(2, 3);
         x.put(3, NONE);
-        int kept = hang(x, 1, 1, 0, 0);
+        int kept = Heaps.hang(x, 1, 1, 0, 0);
         x.put(1, NONE);
         x.put(2, NONE);
         Check.due("full(true)", x.full(true), 1);
@@ -451,10 +428,10 @@ public final class CollectorTest {
 
         Tenuredale y = new Tenuredale();
         y.make(0, 4, 1);
-        hang(y, 0, 0, 3, 2);
+        Heaps.hang(y, 0, 0, 3, 2);
         y.get(0, 0, 1);
-        hang(y, 1, 0, 0, 0);
-        hang(y, 1, 1, 0, 0);
+        Heaps.hang(y, 1, 0, 0, 0);
+        Heaps.hang(y, 1, 1, 0, 0);
         y.put(0, NONE);
         y.put(1, NONE);
         Check.due("full(true)", y.full(true), 2);
@@ -505,7 +482,7 @@ public final class CollectorTest {
 
     private static void fullYoung() {
         Check.part("Promise 14, YOUNG");
-        Tenuredale x = withEightLeft(5);
+        Tenuredale x = Heaps.withEightLeft(5);
         x.make(1, 0, 5);
         x.put(0, NONE);
         x.hash(1);
@@ -518,7 +495,7 @@ public final class CollectorTest {
         Check.due("AGE", x.ofObject(5, 3), 0);
         Check.due("OLD grows behind that", x.many(6), 90);
 
-        Tenuredale y = withEightLeft(5);
+        Tenuredale y = Heaps.withEightLeft(5);
         y.make(1, 0, 5);
         y.put(0, NONE);
         y.make(0, 0, 0);
@@ -682,13 +659,13 @@ public final class CollectorTest {
         Check.throwsArgument("step(51)", () -> x.step(51));
         Check.throwsArgument("step(MIN)", () -> x.step(Integer.MIN_VALUE));
         x.make(0, 0, 2);
-        int child = hang(x, 0, 1, 0, 1);
+        int child = Heaps.hang(x, 0, 1, 0, 1);
         x.make(1, 1, 3);
-        int weak = hang(x, 1, 0, 0, 0);
-        int third = hang(x, 1, 1, 0, 4);
+        int weak = Heaps.hang(x, 1, 0, 0, 0);
+        int third = Heaps.hang(x, 1, 1, 0, 4);
         x.make(2, 3, 2);
-        hang(x, 2, 0, 0, 0);
-        hang(x, 2, 1, 2, 1);
+        Heaps.hang(x, 2, 0, 0, 0);
+        Heaps.hang(x, 2, 1, 2, 1);
         x.start();
         Check.throwsArgument("step(0)", () -> x.step(0));
         Check.throwsArgument("step(51)", () -> x.step(51));
@@ -716,7 +693,7 @@ public final class CollectorTest {
         x.make(0, 0, 0);
         x.make(1, 0, 0);
         x.make(2, 0, 1);
-        hang(x, 2, 0, 0, 0);
+        Heaps.hang(x, 2, 0, 0, 0);
         x.start();
         x.step(1);
         x.put(0, NONE);
@@ -738,7 +715,7 @@ public final class CollectorTest {
         x.make(0, 0, 1);
         x.make(1, 0, 1);
         x.make(2, 0, 1);
-        hang(x, 2, 0, 0, 1);
+        Heaps.hang(x, 2, 0, 0, 1);
         x.start();
         x.step(1);
         x.get(2, 0, 3);
@@ -774,9 +751,9 @@ public final class CollectorTest {
 
         Tenuredale y = new Tenuredale();
         y.make(0, 0, 1);
-        int taken = hang(y, 0, 0, 0, 1);
+        int taken = Heaps.hang(y, 0, 0, 0, 1);
         y.get(0, 0, 1);
-        int behind = hang(y, 1, 0, 0, 0);
+        int behind = Heaps.hang(y, 1, 0, 0, 0);
         y.put(1, NONE);
         int swapped = y.make(1, 0, 0);
         y.set(0, 0, NONE);
@@ -805,11 +782,11 @@ public final class CollectorTest {
         Check.part("Promise 17, (b) and (c)");
         Tenuredale x = new Tenuredale();
         x.make(0, 1, 1);
-        hang(x, 0, 0, 0, 0);
+        Heaps.hang(x, 0, 0, 0, 0);
         x.make(1, 3, 2);
-        hang(x, 1, 1, 0, 0);
+        Heaps.hang(x, 1, 1, 0, 0);
         x.make(2, 2, 1);
-        hang(x, 2, 0, 0, 0);
+        Heaps.hang(x, 2, 0, 0, 0);
         x.make(3, 4, 1);
         x.push();
         x.make(0, 0, 0);
@@ -828,9 +805,9 @@ public final class CollectorTest {
 
         Tenuredale y = new Tenuredale();
         y.make(0, 4, 1);
-        hang(y, 0, 0, 2, 1);
+        Heaps.hang(y, 0, 0, 2, 1);
         y.get(0, 0, 1);
-        int kept = hang(y, 1, 0, 0, 0);
+        int kept = Heaps.hang(y, 1, 0, 0, 0);
         y.put(0, NONE);
         y.put(1, NONE);
         y.start();

@@ -435,36 +435,21 @@ public final class ProgramTest {
         Check.due("it does not move", x.ofObject(2, 1), 107);
     }
 
-    /** OLD with 52 of 60 words used, so that 8 are left, and a YOUNG one in the SLOT 0 of a second FRAME. */
-    private static Tenuredale withEightLeft(int fields) {
-        Tenuredale x = new Tenuredale();
-        x.tenure(1);
-        for (int slot = 0; slot < 3; slot++) {
-            x.make(slot, 0, 11);
-        }
-        x.minor();
-        x.make(3, 0, 11);
-        x.minor();
-        x.push();
-        x.make(0, 0, fields);
-        return x;
-    }
-
     private static void pinWithoutRoom() {
         Check.part("Promise 10, room");
-        Tenuredale fits = withEightLeft(6);
+        Tenuredale fits = Heaps.withEightLeft(6);
         Check.due("pin(0) that just fits", fits.pin(0), true);
         Check.due("OLD", fits.many(5), 60);
-        Tenuredale wide = withEightLeft(7);
+        Tenuredale wide = Heaps.withEightLeft(7);
         long before = wide.digest();
         Check.due("pin(0) without room", wide.pin(0), false);
         Check.due("digest()", wide.digest(), before);
-        Tenuredale grown = withEightLeft(6);
+        Tenuredale grown = Heaps.withEightLeft(6);
         grown.hash(0);
         before = grown.digest();
         Check.due("pin(0) without room, as it would be then", grown.pin(0), false);
         Check.due("digest()", grown.digest(), before);
-        Tenuredale self = withEightLeft(6);
+        Tenuredale self = Heaps.withEightLeft(6);
         self.set(0, 0, 0);
         self.pin(0);
         Check.due("a FIELD with itself is none with a YOUNG one", self.many(9), 0);
@@ -472,7 +457,7 @@ public final class ProgramTest {
 
     private static void pinWrong() {
         Check.part("Promise 10, wrong");
-        Tenuredale x = withEightLeft(9);
+        Tenuredale x = Heaps.withEightLeft(9);
         x.pop();
         for (int slot = 0; slot < 4; slot++) {
             Check.due("pin", x.pin(slot), true);
