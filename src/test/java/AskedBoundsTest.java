@@ -32,11 +32,13 @@ public final class AskedBoundsTest {
         Bound.end(19, 30);
     }
 
-    /** One that is GONE, with 3 FIELDS, of which one had something. */
+    /** One that is GONE, with 3 FIELDS that had something. */
     private static Tenuredale withOneGone() {
         Tenuredale x = new Tenuredale();
         x.make(0, 0, 3);
-        x.set(0, 1, 0);
+        for (int field = 0; field < 3; field++) {
+            x.set(0, field, 0);
+        }
         x.hash(0);
         x.put(0, NONE);
         x.minor();
@@ -405,6 +407,24 @@ public final class AskedBoundsTest {
         y.step(1);
         y.put(0, NONE);
         Check.due("isReachable(0)", y.isReachable(0), false);
+        Bound.of(26, "MARKED is what FRAMES, GLOBALS and the QUEUE refer to, what is PINNED", "each of 4");
+        Tenuredale p = Heaps.withFourPinned();
+        p.pop();
+        for (int slot = 0; slot < 4; slot++) {
+            p.put(slot, NONE);
+            p.make(0, 0, 0);
+            p.swap(0, slot);
+        }
+        for (int slot = 0; slot < 4; slot++) {
+            p.make(slot, 4, 0);
+            p.put(slot, NONE);
+        }
+        p.minor();
+        Check.due("many(10)", p.many(10), 4);
+        for (int n = 0; n < 12; n++) {
+            Check.due("isReachable(" + n + ")", p.isReachable(n), true);
+        }
+        Check.due("wouldFree(false)", p.wouldFree(false), 0);
         Bound.of(26, "all to which the FIELDS of what is MARKED refer", "a chain of 60, from the 8th FRAME");
         Tenuredale c = Heaps.withChain(60);
         c.put(1, NONE);
@@ -461,6 +481,38 @@ public final class AskedBoundsTest {
             return x;
         };
         Bound.still("wouldFree(false)", risen, x -> x.wouldFree(false), 0);
+        Supplier<Tenuredale> risenOld = () -> {
+            Tenuredale x = new Tenuredale();
+            x.make(0, 4, 2);
+            x.make(1, 4, 12);
+            x.full(true);
+            Heaps.hang(x, 0, 0, 0, 0);
+            Heaps.hang(x, 1, 0, 0, 0);
+            x.put(0, NONE);
+            x.put(1, NONE);
+            return x;
+        };
+        Bound.still("wouldFree(false) with OLD and LARGE ones", risenOld, x -> x.wouldFree(false), 0);
+        Bound.of(27, "have neither KEY nor VALUE any more", "though the KEY rises");
+        Supplier<Tenuredale> cut = () -> {
+            Tenuredale x = new Tenuredale();
+            x.make(0, 3, 2);
+            Heaps.hang(x, 0, 0, 4, 0);
+            Heaps.hang(x, 0, 1, 0, 2);
+            return x;
+        };
+        Bound.still("wouldFree(true)", cut, x -> x.wouldFree(true), 4);
+        Bound.of(27, "what would be (nothing is changed)", "nor what would be by a FULL of later on");
+        Tenuredale later = cut.get();
+        later.wouldFree(true);
+        later.get(0, 0, 1);
+        Check.due("the VALUE, as its KEY is held by now", later.isReachable(2), true);
+        Check.due("wouldFree(true)", later.wouldFree(true), 0);
+        later.put(1, NONE);
+        later.wouldFree(false);
+        later.get(0, 0, 1);
+        Check.due("full(true)", later.full(true), 0);
+        Check.due("VALUE", later.field(0, 1), 2);
         Bound.of(27, sentence, "as that FULL does, to a word");
         for (boolean isSoftKept : new boolean[] {true, false}) {
             Tenuredale x = Heaps.rich();
@@ -507,6 +559,9 @@ public final class AskedBoundsTest {
         Heaps.hang(g, 0, 0, 0, 0);
         g.put(0, NONE);
         Check.due("held(0)", g.held(0), 0);
+        Bound.of(28, "Returns by how many words wouldFree(true) would be more", "SOFT ones are kept");
+        Bound.still("held(0)", AskedBoundsTest::withOneThatHoldsSoftOnes, x -> x.held(0), 5);
+        Bound.still("held(1)", AskedBoundsTest::withOneThatHoldsSoftOnes, x -> x.held(1), 2);
         Bound.of(28, "(below 0: less)");
         Bound.still("held(0)", AskedBoundsTest::withOneThatHoldsLessThanNothing, x -> x.held(0), -3);
         Bound.still("wouldFree(true)", AskedBoundsTest::withOneThatHoldsLessThanNothing, x -> x.wouldFree(true), 3);
@@ -530,6 +585,18 @@ public final class AskedBoundsTest {
         for (int slot = 1; slot < 4; slot++) {
             x.put(slot, NONE);
         }
+        return x;
+    }
+
+    /** The LARGE 0 refers to the SOFT 1, that to 2; what is held by 3, a SOFT one, too, is 4. */
+    private static Tenuredale withOneThatHoldsSoftOnes() {
+        Tenuredale x = new Tenuredale();
+        x.make(0, 0, 12);
+        Heaps.hang(x, 0, 11, 2, 1);
+        x.get(0, 11, 1);
+        Heaps.hang(x, 1, 0, 0, 0);
+        x.make(1, 2, 1);
+        Heaps.hang(x, 1, 0, 0, 4);
         return x;
     }
 
@@ -572,6 +639,9 @@ public final class AskedBoundsTest {
         l.full(true);
         Check.due("addressFor(18), the first gap that just is great enough", l.addressFor(18), 360);
         Check.due("addressFor(19), a word too few", l.addressFor(19), NONE);
+        Bound.of(29, "NONE, if there is no room", "200 were made, but there is room");
+        Bound.still("addressFor(0)", Heaps::withAllMade, x -> x.addressFor(0), 0);
+        Bound.still("addressFor(20)", Heaps::withAllMade, x -> x.addressFor(20), 300);
         Bound.of(29, "if nothing is collected for it", "what is YOUNG would be GONE");
         Bound.still("addressFor(0)", () -> {
             Tenuredale x = new Tenuredale();
@@ -613,6 +683,15 @@ public final class AskedBoundsTest {
         wraps("all of LARGE", withAllOfLarge());
         wraps("all CARDS are DIRTY", withAllDirty());
         wraps("what is held is below 0", withOneThatHoldsLessThanNothing());
+        wraps("what SOFT ones hold", withOneThatHoldsSoftOnes());
+        for (int left = 5; left <= 7; left++) {
+            Tenuredale x = new Tenuredale();
+            x.make(0, 0, 11);
+            x.make(1, 0, 11);
+            x.make(2, 0, 12 - left);
+            Check.due("addressFor(4)", x.addressFor(4), left == 5 ? NONE : 40 - left);
+            wraps(left + " words are left", x);
+        }
         Bound.of(30, "Computes a checksum.", "nothing is changed by it");
         Bound.still("digest()", Heaps::rich, Tenuredale::digest, Heaps.rich().digest());
         Bound.still("digest() of a new one", Tenuredale::new, Tenuredale::digest, d.longValue());

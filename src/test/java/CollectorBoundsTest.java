@@ -25,6 +25,8 @@ public final class CollectorBoundsTest {
         fullSlides();
         fullTakesYoung(14);
         fullTakesYoung(17);
+        onceMore(14);
+        onceMore(17);
         wordsOfOld(14);
         wordsOfOld(17);
         fullAmidMarking();
@@ -485,6 +487,22 @@ public final class CollectorBoundsTest {
         Check.due("many(10)", x.many(10), 0);
         Check.due("KIND", x.ofObject(0, 7), 4);
         Check.due("KIND of one that moved", x.ofObject(1, 7), 4);
+        Bound.of(13, "(c) FINAL ones that are YOUNG and did not move, by number, are put into the QUEUE",
+            "not one that moved by a FIELD of one that did");
+        Tenuredale f = new Tenuredale();
+        f.make(0, 0, 1);
+        Heaps.hang(f, 0, 0, 0, 1);
+        f.get(0, 0, 1);
+        Heaps.hang(f, 1, 0, 4, 0);
+        f.get(1, 0, 2);
+        f.make(3, 1, 1);
+        f.set(3, 0, 2);
+        f.put(1, NONE);
+        f.put(2, NONE);
+        Check.due("minor()", f.minor(), 0);
+        Check.due("many(10)", f.many(10), 0);
+        Check.due("KIND", f.ofObject(2, 7), 4);
+        Check.due("the REFERENT", f.field(3, 0), 2);
         Bound.of(13, "(c) FINAL ones that are YOUNG and did not move, by number, are put into the QUEUE", "20, a HALF");
         Tenuredale y = new Tenuredale();
         for (int n = 0; n < 20; n++) {
@@ -692,6 +710,14 @@ public final class CollectorBoundsTest {
         x.put(2, NONE);
         Check.due("the KEY is the PAIR", x.full(true), 0);
         Check.due("VALUE", x.field(0, 1), 4);
+        Bound.of(14, "nor the KEY of a PAIR, and its VALUE only if its KEY is MARKED", "the FIELD behind them is as others are");
+        Tenuredale t = new Tenuredale();
+        t.make(0, 3, 3);
+        Heaps.hang(t, 0, 0, 0, 0);
+        Heaps.hang(t, 0, 1, 0, 0);
+        Heaps.hang(t, 0, 2, 0, 0);
+        Check.due("full(true)", t.full(true), 2);
+        Check.due("the FIELD 2", t.field(0, 2), 3);
         Bound.of(14, "all WEAK ones (SOFT ones, too, if these are not kept), MARKED or not, whose REFERENT is not MARKED"
             + " have none any more.", "one that is not MARKED rises with its REFERENT");
         for (int kind = 1; kind <= 2; kind++) {
@@ -729,6 +755,14 @@ public final class CollectorBoundsTest {
         Check.due("full(true)", x.full(true), 0);
         Check.due("many(10)", x.many(10), 0);
         Check.due("KIND", x.ofObject(0, 7), 4);
+        Bound.of(14, "(c) FINAL ones that are not MARKED, by number, are put into the QUEUE",
+            "not one that is MARKED by a FIELD of one that is");
+        Tenuredale f = withHeldByFields();
+        Check.due("full(true)", f.full(true), 0);
+        Check.due("many(10)", f.many(10), 0);
+        Check.due("KIND", f.ofObject(2, 7), 4);
+        Check.due("a REFERENT", f.field(3, 0), 2);
+        Check.due("a KEY", f.field(4, 0), 2);
         Bound.of(14, "(c) FINAL ones that are not MARKED, by number, are put into the QUEUE", "LARGE, OLD and YOUNG ones");
         Tenuredale y = new Tenuredale();
         y.make(0, 4, 12);
@@ -760,6 +794,48 @@ public final class CollectorBoundsTest {
         z.put(0, NONE);
         Check.due("full(true)", z.full(true), 2);
         Check.due("many(10)", z.many(10), 0);
+    }
+
+    /** 0, in the SLOT 0, refers to 1, that to the FINAL one 2; that is 3's REFERENT and 4's KEY, in the SLOTS 2 and 3. */
+    private static Tenuredale withHeldByFields() {
+        Tenuredale x = new Tenuredale();
+        x.make(0, 0, 1);
+        Heaps.hang(x, 0, 0, 0, 1);
+        x.get(0, 0, 1);
+        Heaps.hang(x, 1, 0, 4, 0);
+        x.get(1, 0, 1);
+        x.make(2, 1, 1);
+        x.set(2, 0, 1);
+        x.make(3, 3, 2);
+        x.set(3, 0, 1);
+        x.put(1, NONE);
+        return x;
+    }
+
+    private static void onceMore(int promise) {
+        Bound.of(promise, "Then (b) once more. What is not MARKED is GONE.", "a PAIR that rises without its KEY");
+        Tenuredale x = new Tenuredale();
+        x.make(0, 4, 1);
+        Heaps.hang(x, 0, 0, 3, 2);
+        x.get(0, 0, 1);
+        Heaps.hang(x, 1, 0, 0, 0);
+        Heaps.hang(x, 1, 1, 0, 0);
+        x.put(0, NONE);
+        x.put(1, NONE);
+        Check.due("GONE", collect(promise, x), 2);
+        Check.due("where the PAIR is", x.ofObject(1, 0), 2);
+        Check.due("KEY", x.field(1, 0), NONE);
+        Check.due("VALUE", x.field(1, 1), NONE);
+        Bound.of(promise, "these and what follows from them, as in (a), is MARKED", "a SOFT one's REFERENT, as they are kept");
+        Tenuredale y = new Tenuredale();
+        y.make(0, 4, 1);
+        Heaps.hang(y, 0, 0, 2, 1);
+        y.get(0, 0, 1);
+        Heaps.hang(y, 1, 0, 0, 0);
+        y.put(0, NONE);
+        y.put(1, NONE);
+        Check.due("GONE", collect(promise, y), 0);
+        Check.due("the REFERENT", y.field(1, 0), 2);
     }
 
     private static void fullSlides() {

@@ -765,6 +765,14 @@ public final class ProgramBoundsTest {
         Bound.still("put(3, -1)", Heaps::rich, y -> y.put(3, NONE), NONE);
         Bound.still("put(3, 1)", Heaps::rich, y -> y.put(3, 1), NONE);
         Bound.still("put(0, 0)", Heaps::rich, y -> y.put(0, 0), 8);
+        Bound.of(7, "SLOTS that are told are those of the last FRAME.", "the 8th");
+        Tenuredale e = Heaps.richWithFrames(8);
+        int made = e.at(1);
+        Check.due("put(0, 1)", e.put(0, 1), NONE);
+        Check.due("put(1, -1)", e.put(1, NONE), made);
+        e.pop();
+        Check.due("at(0) of the 7th", e.at(0), NONE);
+        Check.due("at(1) of the 7th", e.at(1), made - 1);
         Bound.of(7, "Lets a SLOT refer to what another one does.", "amid MARKING, no colour changes");
         Tenuredale y = withWhiteOne();
         y.put(2, 3);
@@ -786,6 +794,15 @@ public final class ProgramBoundsTest {
         Check.due("swap(3, 3)", x.swap(3, 3), 0);
         Check.due("at(3)", x.at(3), 0);
         Check.due("swap(2, 3)", x.swap(2, 3), NONE);
+        Bound.of(8, "SLOTS that are told are those of the last FRAME.", "from the first to the 8th");
+        Tenuredale e = withFields(0);
+        e.swap(0, 0);
+        for (int frames = 2; frames <= 8; frames++) {
+            e.push();
+        }
+        Check.due("swap(3, 0)", e.swap(3, 0), 0);
+        Check.due("at(3)", e.at(3), 0);
+        Check.due("full(true)", e.full(true), 0);
         Bound.of(8, "Exchanges what a SLOT and a GLOBAL refer to.", "amid MARKING, no colour changes");
         Tenuredale y = withWhiteOne();
         y.swap(3, 0);
