@@ -443,7 +443,8 @@ public final class AskedBoundsTest {
         Bound.of(27, sentence, "none");
         Bound.still("wouldFree(true) of a new one", Tenuredale::new, x -> x.wouldFree(true), 0);
         Bound.still("wouldFree(false) of a new one", Tenuredale::new, x -> x.wouldFree(false), 0);
-        Bound.still("wouldFree(false) of what is GONE already", AskedBoundsTest::withOneGone, x -> x.wouldFree(false), 0);
+        Bound.still("wouldFree(false) of what is GONE already", AskedBoundsTest::withOneGone,
+            x -> x.wouldFree(false), 0);
         Bound.of(27, sentence, "all");
         Supplier<Tenuredale> heap = () -> {
             Tenuredale x = Heaps.withAllOfOld();

@@ -698,7 +698,8 @@ public final class CollectorBoundsTest {
         x.set(0, 1, 1);
         Check.due("full(true)", x.full(true), 0);
         Check.due("VALUE", x.field(0, 1), NONE);
-        Bound.of(14, "nor the KEY of a PAIR, and its VALUE only if its KEY is MARKED", "the KEY is the VALUE, or the PAIR");
+        Bound.of(14, "nor the KEY of a PAIR, and its VALUE only if its KEY is MARKED",
+            "the KEY is the VALUE, or the PAIR");
         x.make(2, 0, 0);
         x.set(0, 0, 2);
         x.set(0, 1, 2);
@@ -710,7 +711,8 @@ public final class CollectorBoundsTest {
         x.put(2, NONE);
         Check.due("the KEY is the PAIR", x.full(true), 0);
         Check.due("VALUE", x.field(0, 1), 4);
-        Bound.of(14, "nor the KEY of a PAIR, and its VALUE only if its KEY is MARKED", "the FIELD behind them is as others are");
+        Bound.of(14, "nor the KEY of a PAIR, and its VALUE only if its KEY is MARKED",
+            "the FIELD behind them is as others are");
         Tenuredale t = new Tenuredale();
         t.make(0, 3, 3);
         Heaps.hang(t, 0, 0, 0, 0);
@@ -718,7 +720,8 @@ public final class CollectorBoundsTest {
         Heaps.hang(t, 0, 2, 0, 0);
         Check.due("full(true)", t.full(true), 2);
         Check.due("the FIELD 2", t.field(0, 2), 3);
-        Bound.of(14, "all WEAK ones (SOFT ones, too, if these are not kept), MARKED or not, whose REFERENT is not MARKED"
+        Bound.of(14,
+            "all WEAK ones (SOFT ones, too, if these are not kept), MARKED or not, whose REFERENT is not MARKED"
             + " have none any more.", "one that is not MARKED rises with its REFERENT");
         for (int kind = 1; kind <= 2; kind++) {
             Tenuredale w = new Tenuredale();
@@ -763,7 +766,8 @@ public final class CollectorBoundsTest {
         Check.due("KIND", f.ofObject(2, 7), 4);
         Check.due("a REFERENT", f.field(3, 0), 2);
         Check.due("a KEY", f.field(4, 0), 2);
-        Bound.of(14, "(c) FINAL ones that are not MARKED, by number, are put into the QUEUE", "LARGE, OLD and YOUNG ones");
+        Bound.of(14, "(c) FINAL ones that are not MARKED, by number, are put into the QUEUE",
+            "LARGE, OLD and YOUNG ones");
         Tenuredale y = new Tenuredale();
         y.make(0, 4, 12);
         y.make(1, 4, 0);
@@ -796,7 +800,9 @@ public final class CollectorBoundsTest {
         Check.due("many(10)", z.many(10), 0);
     }
 
-    /** 0, in the SLOT 0, refers to 1, that to the FINAL one 2; that is 3's REFERENT and 4's KEY, in the SLOTS 2 and 3. */
+    /**
+     * 0, in the SLOT 0, refers to 1, that to the FINAL one 2; that is 3's REFERENT and 4's KEY, in the SLOTS 2 and 3.
+     */
     private static Tenuredale withHeldByFields() {
         Tenuredale x = new Tenuredale();
         x.make(0, 0, 1);
@@ -826,7 +832,8 @@ public final class CollectorBoundsTest {
         Check.due("where the PAIR is", x.ofObject(1, 0), 2);
         Check.due("KEY", x.field(1, 0), NONE);
         Check.due("VALUE", x.field(1, 1), NONE);
-        Bound.of(promise, "these and what follows from them, as in (a), is MARKED", "a SOFT one's REFERENT, as they are kept");
+        Bound.of(promise, "these and what follows from them, as in (a), is MARKED",
+            "a SOFT one's REFERENT, as they are kept");
         Tenuredale y = new Tenuredale();
         y.make(0, 4, 1);
         Heaps.hang(y, 0, 0, 2, 1);
@@ -923,7 +930,8 @@ public final class CollectorBoundsTest {
     }
 
     private static void fullTakesYoung(int promise) {
-        String sentence = "(e) YOUNG ones: if all of them have room behind that, as they would be then, they move there";
+        String sentence = "(e) YOUNG ones: if all of them have room behind that, as they would be then, "
+            + "they move there";
         Bound.of(promise, sentence, "just room");
         Tenuredale x = Heaps.withEightLeft(4);
         x.make(1, 0, 0);
@@ -976,7 +984,8 @@ public final class CollectorBoundsTest {
         collect(promise, e);
         Check.due("many(4)", e.many(4), 0);
         Check.due("many(3)", e.many(3), 0);
-        Bound.of(promise, "and YOUNG is empty, with the HALF at 0 in use", "it was empty already, but for what is GONE");
+        Bound.of(promise, "and YOUNG is empty, with the HALF at 0 in use",
+            "it was empty already, but for what is GONE");
         e.minor();
         e.make(1, 0, 0);
         e.put(1, NONE);
@@ -1347,7 +1356,8 @@ public final class CollectorBoundsTest {
     }
 
     private static void finishMarks() {
-        String sentence = "what FRAMES, GLOBALS and the QUEUE refer to, and what is PINNED, becomes GREY, if it is WHITE";
+        String sentence = "what FRAMES, GLOBALS and the QUEUE refer to, and what is PINNED, becomes GREY, "
+            + "if it is WHITE";
         Bound.of(17, sentence, "8 FRAMES, 4 GLOBALS, 4 that are PINNED");
         Tenuredale x = new Tenuredale();
         x.make(0, 0, 20);

@@ -380,7 +380,8 @@ public final class ProgramBoundsTest {
         Check.due("MINORS", f.many(11), 2);
         Check.due("FULLS", f.many(12), 1);
 
-        Bound.of(4, "if there is none still, a FULL with SOFT ones kept", "the MINOR was a FULL, that made OLD greater");
+        Bound.of(4, "if there is none still, a FULL with SOFT ones kept",
+            "the MINOR was a FULL, that made OLD greater");
         Tenuredale g = withHeldHalf(38);
         Check.due("make(3, 0, 1)", g.make(3, 0, 1), 8);
         place(g, 8, 1, 0);
@@ -825,7 +826,7 @@ public final class ProgramBoundsTest {
         Bound.of(9, "as it is asked for first, the number of those that were given ahead");
         Bound.still("hash(0), asked for once more", Heaps::rich, x -> x.hash(0), 1);
         Tenuredale x = new Tenuredale();
-        for (int n = 0; n < 200; n++) {
+        for (int n = 0; n < 150; n++) {
             x.make(0, 0, 0);
             Check.due("hash(0) of " + n, x.hash(0), n);
             Check.due("hash(0) of " + n + ", once more", x.hash(0), n);
@@ -990,7 +991,8 @@ public final class ProgramBoundsTest {
             y.make(3, 0, 0);
             return y;
         }, y -> y.pin(3) ? 1 : 0, 0);
-        Bound.of(10, "To PIN an OBJECT that is YOUNG, it moves to the TOP of OLD first", "one that is not needs no room");
+        Bound.of(10, "To PIN an OBJECT that is YOUNG, it moves to the TOP of OLD first",
+            "one that is not needs no room");
         Tenuredale full = Heaps.withAllOfOld();
         Check.due("pin(0) of an OLD one", full.pin(0), true);
         place(full, 59, 2, 277);
@@ -1083,7 +1085,8 @@ public final class ProgramBoundsTest {
         }
         Bound.of(12, "NONE if the QUEUE is empty (the SLOT stays as it is)");
         Bound.still("take(0)", Tenuredale::new, x -> x.take(0), NONE);
-        Bound.still("take(0) of a QUEUE that has become empty", ProgramBoundsTest::withEmptiedQueue, x -> x.take(0), NONE);
+        Bound.still("take(0) of a QUEUE that has become empty", ProgramBoundsTest::withEmptiedQueue, x -> x.take(0),
+            NONE);
         Tenuredale x = withEmptiedQueue();
         Check.due("take(0)", x.take(0), NONE);
         Check.due("at(0)", x.at(0), x.many(0) - 3);
